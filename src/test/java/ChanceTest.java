@@ -88,6 +88,9 @@ public final class ChanceTest {
         Check.word(moved, "cd");
         // either stays: the others are where they are, at places 2 and 4
         drops(moved, 0, 1, 99, 100);
+        Check.word(moved, "ba");
+        // both must stay
+        drops(moved, 0, 1, 81, 100);
         FanBlades six = Check.fanOf("F" + "B0aaaaaaaa".repeat(6));
         Check.word(six, "aaaa");
         drops(six, 1, 1, 999999, 1000000);
@@ -120,6 +123,7 @@ public final class ChanceTest {
         Check.due("refused years leave the seed", x.seed(0), 0);
         Check.due("years(1)", x.years(1), 0);
         Check.due("the seed after 0", x.seed(0), 1442695040888963407L);
+        Check.due("years(30)", x.years(30), 0);
     }
 
     /** A seed that becomes the wanted number in one year, as the multiplier is odd and can be undone. */

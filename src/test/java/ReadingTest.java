@@ -76,6 +76,9 @@ public final class ReadingTest {
         open(Check.fanOf(three), "aab", 0, 2, 11);
         open(Check.fanOf(three, "44"), "aab", 0, 0, 44);
         open(Check.fanOf(three, "11"), "aaab", 0, 1, 21);
+        FanBlades widest = Check.fanOf("F" + "B0abcdefgh".repeat(6), "44444");
+        open(widest, "", 1, 0, 44444);
+        open(widest, "cdabc", 0, 0, 44444);
     }
 
     private static void mostSeen() {
@@ -122,6 +125,11 @@ public final class ReadingTest {
         Check.due("read from the front", x.judge(1, 500), FanBlades.NONE);
         Check.due("read from behind", x.judge(1, 501), 0);
         Check.due("from no side", x.judge(1, 502), 0);
+        Check.word(x, "dz");
+        Check.due("not read as it is", x.judge(1, 500), 0);
+        Check.due("read when spread", x.judge(2, 100500), FanBlades.NONE);
+        Check.word(x, "cz");
+        Check.due("not read when snapped", x.judge(3, 500400500), 2);
         Check.word(x, "vu");
         Check.due("not read from the front, being behind", x.judge(2, 400500), 1);
         Check.word(x, "");
